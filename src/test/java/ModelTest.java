@@ -10,7 +10,7 @@ import java.util.Random;
  * word by word: every price is tried, every book told and passed is written down.
  */
 public final class ModelTest {
-    private static final int RUNS = 1500;
+    private static final int RUNS = 800;
     private static final int MOST_CALLS = 512;
 
     private enum Name {
@@ -554,6 +554,7 @@ public final class ModelTest {
         final StringBuilder said = new StringBuilder();
         int calls = 0;
         int taken = 0;
+        boolean isFull = false;
         boolean isWrong = false;
 
         Run(int seed) {
@@ -614,7 +615,7 @@ public final class ModelTest {
 
         void send(boolean blocksMostly) {
             int p = below(members());
-            int op = below(6) == 0 ? below(4) : -1;
+            int op = !isFull && below(6) == 0 ? below(4) : -1;
             int quantity = 1 + below(mostQuantity);
             if (blocksMostly ? below(3) > 0 : below(4) == 0) {
                 call(Name.BLOCK, p, op, SPANS[below(6)], below(2), quantity, limit());
@@ -624,13 +625,15 @@ public final class ModelTest {
         }
 
         void day() {
+            // On some days every book is full, and the same at all operators.
+            isFull = below(6) == 0;
             for (int p = 0; p < members(); p++) {
                 if (below(5) > 0) {
-                    call(Name.COLLATERAL, p, below(3) == 0 ? below(20000) : 1_000_000_000);
+                    call(Name.COLLATERAL, p, !isFull && below(3) == 0 ? below(20000) : 1_000_000_000);
                 }
             }
             boolean blocksMostly = below(4) == 0;
-            int sends = below(12 * members());
+            int sends = isFull ? 16 * members() : below(12 * members());
             for (int k = 0; k < sends; k++) {
                 send(blocksMostly);
                 if (below(40) == 0) {
