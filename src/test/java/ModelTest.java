@@ -13,19 +13,8 @@ public final class ModelTest {
     private static final int RUNS = 800;
     private static final int MOST_CALLS = 512;
 
-    private enum Name {
-        COLLATERAL(2), ORDER(6), BLOCK(6), SEAL(1), LIAR(1), TELL(4), ROUND(0), VECTOR(4), CLEAR(1),
-        PRICE(2), TRADED(2), FILL(3), WELFARE(1), METER(3), BALANCE(2), NEXT_DAY(0);
-
-        final int arguments;
-
-        Name(int arguments) {
-            this.arguments = arguments;
-        }
-    }
-
     private interface Auction {
-        long call(Name name, int[] a);
+        long call(Face name, int[] a);
     }
 
     private static final class Program implements Auction {
@@ -36,25 +25,8 @@ public final class ModelTest {
         }
 
         @Override
-        public long call(Name name, int[] a) {
-            switch (name) {
-                case COLLATERAL: x.collateral(a[0], a[1]); return 0;
-                case ORDER: return x.order(a[0], a[1], a[2], a[3], a[4], a[5]);
-                case BLOCK: return x.block(a[0], a[1], a[2], a[3], a[4], a[5]);
-                case SEAL: return x.seal(a[0]);
-                case LIAR: x.liar(a[0]); return 0;
-                case TELL: x.tell(a[0], a[1], a[2], a[3]); return 0;
-                case ROUND: return x.round();
-                case VECTOR: return x.vector(a[0], a[1], a[2], a[3]);
-                case CLEAR: return x.clear(a[0]);
-                case PRICE: return x.price(a[0], a[1]);
-                case TRADED: return x.traded(a[0], a[1]);
-                case FILL: return x.fill(a[0], a[1], a[2]);
-                case WELFARE: return x.welfare(a[0]);
-                case METER: x.meter(a[0], a[1], a[2]); return 0;
-                case BALANCE: return x.balance(a[0], a[1]);
-                default: x.nextDay(); return 0;
-            }
+        public long call(Face name, int[] a) {
+            return name.call(x, a);
         }
     }
 
@@ -168,7 +140,7 @@ public final class ModelTest {
         }
 
         @Override
-        public long call(Name name, int[] a) {
+        public long call(Face name, int[] a) {
             switch (name) {
                 case COLLATERAL:
                     argument(member(a[0]) && in(0, a[1], 1_000_000_000));
@@ -534,7 +506,7 @@ public final class ModelTest {
         }
     }
 
-    private static String answerOf(Auction auction, Name name, int[] a) {
+    private static String answerOf(Auction auction, Face name, int[] a) {
         try {
             return Long.toString(auction.call(name, a));
         } catch (RuntimeException e) {
@@ -573,7 +545,7 @@ public final class ModelTest {
             mostQuantity = random.nextInt(3) == 0 ? 1000 : 1 + random.nextInt(20);
         }
 
-        boolean call(Name name, int... a) {
+        boolean call(Face name, int... a) {
             if (isWrong || calls >= MOST_CALLS) {
                 return false;
             }
@@ -581,7 +553,7 @@ public final class ModelTest {
             String got = answerOf(program, name, a);
             String want = answerOf(model, name, a);
             said.append(name).append(Arrays.toString(a)).append(' ').append(want).append('\n');
-            if (name == Name.CLEAR && !want.startsWith("throws") && !want.equals("0")) {
+            if (name == Face.CLEAR && !want.startsWith("throws") && !want.equals("0")) {
                 taken++;
             }
             if (!got.equals(want)) {
@@ -605,7 +577,7 @@ public final class ModelTest {
 
         /** A call of any name with arguments of any kind, most of them near what is allowed. */
         void anyCall() {
-            Name name = Name.values()[below(Name.values().length - 1)];
+            Face name = Face.values()[below(Face.values().length - 1)];
             int[] a = new int[name.arguments];
             for (int k = 0; k < a.length; k++) {
                 a[k] = below(30) == 0 ? random.nextInt() : below(7) - 1;
@@ -618,9 +590,9 @@ public final class ModelTest {
             int op = !isFull && below(6) == 0 ? below(4) : -1;
             int quantity = 1 + below(mostQuantity);
             if (blocksMostly ? below(3) > 0 : below(4) == 0) {
-                call(Name.BLOCK, p, op, SPANS[below(6)], below(2), quantity, limit());
+                call(Face.BLOCK, p, op, SPANS[below(6)], below(2), quantity, limit());
             } else {
-                call(Name.ORDER, p, op, below(3), below(2), quantity, limit());
+                call(Face.ORDER, p, op, below(3), below(2), quantity, limit());
             }
         }
 
@@ -629,7 +601,7 @@ public final class ModelTest {
             isFull = below(6) == 0;
             for (int p = 0; p < members(); p++) {
                 if (below(5) > 0) {
-                    call(Name.COLLATERAL, p, !isFull && below(3) == 0 ? below(20000) : 1_000_000_000);
+                    call(Face.COLLATERAL, p, !isFull && below(3) == 0 ? below(20000) : 1_000_000_000);
                 }
             }
             boolean blocksMostly = below(4) == 0;
@@ -642,27 +614,27 @@ public final class ModelTest {
             }
             boolean hasLiar = below(3) > 0;
             if (hasLiar) {
-                call(Name.LIAR, below(4));
+                call(Face.LIAR, below(4));
             }
             for (int p = 0; p < members(); p++) {
-                call(Name.SEAL, p);
+                call(Face.SEAL, p);
             }
             for (int r = 0; r < 3; r++) {
-                call(Name.ROUND);
+                call(Face.ROUND);
                 int tells = hasLiar ? below(14) : 0;
                 for (int k = 0; k < tells; k++) {
-                    call(Name.TELL, below(4), below(4), below(members()), below(4 * members() + 1) - 1);
+                    call(Face.TELL, below(4), below(4), below(members()), below(4 * members() + 1) - 1);
                 }
             }
             lookAtAll();
-            call(Name.NEXT_DAY);
+            call(Face.NEXT_DAY);
         }
 
         void lookAtAll() {
             for (int op = 0; op < 4; op++) {
                 for (int p = 0; p < members(); p++) {
-                    call(Name.VECTOR, op, p, 0, 4);
-                    call(Name.VECTOR, op, p, below(5), below(4));
+                    call(Face.VECTOR, op, p, 0, 4);
+                    call(Face.VECTOR, op, p, below(5), below(4));
                 }
             }
             int first = below(4);
@@ -672,20 +644,20 @@ public final class ModelTest {
         }
 
         void lookAtCleared(int op) {
-            call(Name.CLEAR, op);
-            call(Name.WELFARE, op);
+            call(Face.CLEAR, op);
+            call(Face.WELFARE, op);
             for (int h = 0; h < 3; h++) {
-                call(Name.PRICE, op, h);
-                call(Name.TRADED, op, h);
-                call(Name.METER, below(members()), h, below(2 * mostQuantity + 1) - mostQuantity);
+                call(Face.PRICE, op, h);
+                call(Face.TRADED, op, h);
+                call(Face.METER, below(members()), h, below(2 * mostQuantity + 1) - mostQuantity);
             }
             for (int p = 0; p < members(); p++) {
                 for (int i = 0; i < 10; i++) {
-                    call(Name.FILL, op, p, i);
+                    call(Face.FILL, op, p, i);
                 }
             }
             for (int p = -1; p < members(); p++) {
-                call(Name.BALANCE, op, p);
+                call(Face.BALANCE, op, p);
             }
             if (below(3) == 0) {
                 anyCall();
