@@ -13,6 +13,7 @@ public final class ClearingBoundaryTest {
         clearedHour();
         notCleared();
         fromItsVectorAlone();
+        sameVectors();
         hourWithoutOrders();
         buyersAlone();
         sellersAlone();
@@ -28,7 +29,9 @@ public final class ClearingBoundaryTest {
         earlierOrder();
         sharedWhole();
         nothingToShare();
+        sharesOfEachHour();
         sharesOfMany();
+        sixtyLimits();
         setWithoutBlocks();
         firstEightBlocks();
         eightBlocksTaken();
@@ -171,6 +174,36 @@ public final class ClearingBoundaryTest {
         s.badArgument(() -> x.fill(3, 0, 0));
     }
 
+    /** What one operator cleared leaves no trace in what the next one clears. */
+    private static void sameVectors() {
+        Sentence s = new Sentence("Terms: each clears the day from what it holds: the same, where they hold the same");
+        AuctionHour x = Days.rich(2);
+        for (int h = 0; h < 3; h++) {
+            x.order(0, ALL, h, BUY, 7, -10 * h - 30);
+            x.order(0, ALL, h, BUY, 9, -10 * h - 20);
+            x.order(1, ALL, h, SELL, 4, -10 * h - 50);
+            x.order(1, ALL, h, SELL, 8, -10 * h - 20);
+        }
+        x.block(0, ALL, 2, BUY, 2, -40);
+        x.block(1, ALL, 1, SELL, 3, -45);
+        Days.agree(x, 2);
+        for (int op = 0; op < 4; op++) {
+            int one = op;
+            s.is(2, () -> x.clear(one));
+            s.is(-20, () -> x.price(one, 0));
+            s.is(-30, () -> x.price(one, 1));
+            s.is(-40, () -> x.price(one, 2));
+            for (int h = 0; h < 3; h++) {
+                int hour = h;
+                s.is(9, () -> x.traded(one, hour));
+                s.is(0, () -> x.fill(one, 0, 2 * hour));
+                s.is(9, () -> x.fill(one, 0, 2 * hour + 1));
+                s.is(4, () -> x.fill(one, 1, 2 * hour));
+                s.is(hour == 2 ? 5 : 2, () -> x.fill(one, 1, 2 * hour + 1));
+            }
+        }
+    }
+
     private static void hourWithoutOrders() {
         Sentence s = new Sentence("Terms: the least and the greatest price of -5,000 .. 40,000: an hour without orders");
         for (int busy = -1; busy < 3; busy++) {
@@ -274,20 +307,29 @@ public final class ClearingBoundaryTest {
         pair(s, 40_000, 40_000, 40_000, 10);
     }
 
-    /** Three orders of 5 on one side, around the limit 40 of one of 8 on the other side. */
+    /**
+     * Three orders of a side, around the limit 40 of one of 8 on the other side, sent from the best
+     * limit on and from the worst.
+     */
     private static void aroundThePrice(Sentence s, int side) {
-        AuctionHour x = Days.rich(2);
-        for (int away = 1; away >= -1; away--) {
-            x.order(0, ALL, 0, side, 5, side == BUY ? 40 + away : 40 - away);
+        int[] quantities = {5, 6, 7};
+        int[] due = {5, 3, 0};
+        for (int last = 0; last <= 2; last += 2) {
+            AuctionHour x = Days.rich(2);
+            for (int k = 0; k < 3; k++) {
+                int away = 1 - Math.abs(last - k);
+                x.order(0, ALL, 0, side, quantities[1 - away], side == BUY ? 40 + away : 40 - away);
+            }
+            x.order(1, ALL, 0, 1 - side, 8, 40);
+            Days.clearAll(x, 2);
+            s.is(40, () -> x.price(0, 0));
+            s.is(8, () -> x.traded(0, 0));
+            for (int k = 0; k < 3; k++) {
+                int entry = Math.abs(last - k);
+                s.is(due[k], () -> x.fill(0, 0, entry));
+            }
+            s.is(8, () -> x.fill(0, 1, 0));
         }
-        x.order(1, ALL, 0, 1 - side, 8, 40);
-        Days.clearAll(x, 2);
-        s.is(40, () -> x.price(0, 0));
-        s.is(8, () -> x.traded(0, 0));
-        s.is(5, () -> x.fill(0, 0, 0));
-        s.is(3, () -> x.fill(0, 0, 1));
-        s.is(0, () -> x.fill(0, 0, 2));
-        s.is(8, () -> x.fill(0, 1, 0));
     }
 
     private static void sureToBuy() {
@@ -472,6 +514,25 @@ public final class ClearingBoundaryTest {
         s.is(0, () -> x.fill(0, 1, 1));
     }
 
+    private static void sharesOfEachHour() {
+        Sentence s = new Sentence("Terms: the greatest remainders: those of the hour and the side alone");
+        for (int side = BUY; side <= SELL; side++) {
+            AuctionHour x = Days.rich(2);
+            for (int h = 0; h < 3; h++) {
+                for (int k = 0; k < 3; k++) {
+                    x.order(0, ALL, h, side, 1, 40);
+                }
+                x.order(1, ALL, h, 1 - side, 1 + h % 2, side == BUY ? 30 : 50);
+            }
+            Days.clearAll(x, 2);
+            int[] due = {1, 0, 0, 1, 1, 0, 1, 0, 0};
+            for (int i = 0; i < 9; i++) {
+                int entry = i;
+                s.is(due[i], () -> x.fill(0, 0, entry));
+            }
+        }
+    }
+
     /** Fifty orders of 1,000 share 10,000, or one less. */
     private static void sharesOfMany() {
         Sentence s = new Sentence("Terms: at most 10 ENTRIES of up to 6 members at one price");
@@ -499,6 +560,32 @@ public final class ClearingBoundaryTest {
             }
             s.is(1000 - missing, () -> x.fill(2, 5, 9));
             s.is(0, () -> x.welfare(2));
+        }
+    }
+
+    /** All that six members can send to one hour, no two at the same limit. */
+    private static void sixtyLimits() {
+        Sentence s = new Sentence("Terms: up to 6 MEMBERS, at most 10 ENTRIES: each at a limit of its own");
+        for (int falling = 0; falling <= 1; falling++) {
+            AuctionHour x = Days.rich(6);
+            for (int k = 0; k < 60; k++) {
+                int place = falling == 1 ? 59 - k : k;
+                // Buyers at even limits up to 58, sellers at odd ones up to 59.
+                x.order(k / 10, ALL, 1, place % 2, 1, place);
+            }
+            Days.agree(x, 6);
+            s.is(0, () -> x.clear(0));
+            // At 29 those that buy at 30 .. 58 are sure, and those that sell at 1 .. 27 and at 29 meet them.
+            s.is(29, () -> x.price(0, 1));
+            s.is(15, () -> x.traded(0, 1));
+            for (int k = 0; k < 60; k++) {
+                int place = falling == 1 ? 59 - k : k;
+                int member = k / 10;
+                int entry = k % 10;
+                boolean isFilled = place % 2 == BUY ? place > 29 : place <= 29;
+                s.is(isFilled ? 1 : 0, () -> x.fill(0, member, entry));
+            }
+            s.is(660 - 225, () -> x.welfare(0));
         }
     }
 

@@ -18,6 +18,7 @@ public final class NextDayBoundaryTest {
         noRound();
         notCleared();
         clearedAnew();
+        noLimitsOfYesterday();
         collateralsStay();
         membersStay();
         atAnyTime();
@@ -258,6 +259,26 @@ public final class NextDayBoundaryTest {
         s.is(17_500, () -> x.price(0, 0));
         s.is(0, () -> x.traded(0, 0));
         s.badArgument(() -> x.fill(0, 0, 0));
+    }
+
+    /** A block that only orders of the day before could serve. */
+    private static void noLimitsOfYesterday() {
+        Sentence s = new Sentence("P17: no books: their orders serve nobody on another day");
+        for (int side = BUY; side <= SELL; side++) {
+            AuctionHour x = Days.rich(2);
+            for (int k = 0; k < 5; k++) {
+                x.order(0, ALL, 0, BUY, 100, k);
+                x.order(1, ALL, 0, SELL, 100, k);
+            }
+            Days.clearAll(x, 2);
+            x.nextDay();
+            x.order(0, ALL, 0, 1 - side, 9, 2);
+            x.block(1, ALL, 0, side, 10, side == BUY ? 40_000 : -5000);
+            Days.agree(x, 2);
+            s.is(0, () -> x.clear(0));
+            s.is(side == BUY ? -2499 : 20_001, () -> x.price(0, 0));
+            s.is(0, () -> x.traded(0, 0));
+        }
     }
 
     private static void collateralsStay() {

@@ -491,7 +491,7 @@ public final class RoundBoundaryTest {
         AuctionHour x = divided(3, 3);
         // Of the other member, and refused ones of this one: nothing was set here.
         for (int to = 0; to < 3; to++) {
-            x.tell(to, 3, 1, -1);
+            x.tell(to, 3, 1, 0);
         }
         s.badArgument(() -> x.tell(3, 3, 0, 0));
         s.badArgument(() -> x.tell(1, 0, 0, 0));
