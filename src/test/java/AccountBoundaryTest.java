@@ -15,6 +15,7 @@ public final class AccountBoundaryTest {
         meteredNothingAtFirst();
         moreAndLess();
         moreAndLessAroundTheFee();
+        eachHourAtItsPrice();
         eachHourOnItsOwn();
         blocksToo();
         untakenBlocks();
@@ -22,6 +23,7 @@ public final class AccountBoundaryTest {
         fees();
         feesOfAll();
         metersAtAllOperators();
+        balanceOfEachOperator();
         balanceOperator();
         balanceMember();
         balanceNotCleared();
@@ -154,6 +156,31 @@ public final class AccountBoundaryTest {
         }
     }
 
+    private static void eachHourAtItsPrice() {
+        Sentence s = new Sentence("Terms: paid at price less FEE, charged at price plus FEE: of each hour at its own price");
+        int[] prices = {40, 70, -20};
+        AuctionHour x = Days.rich(2);
+        for (int h = 0; h < 3; h++) {
+            x.order(0, ALL, h, BUY, 10, prices[h]);
+            x.order(1, ALL, h, SELL, 10, prices[h]);
+            x.meter(0, h, -10);
+            x.meter(1, h, 10);
+        }
+        Days.clearAll(x, 2);
+        for (int h = 0; h < 3; h++) {
+            for (int off = -3; off <= 3; off += 3) {
+                long paid = off > 0 ? off * (prices[h] - 50) : off * (prices[h] + 50);
+                x.meter(0, h, -10 + off);
+                s.is(-900 + paid, () -> x.balance(0, 0));
+                x.meter(1, h, 10 + off);
+                s.is(900 + paid, () -> x.balance(0, 1));
+                s.is(-2 * paid, () -> x.balance(0, -1));
+            }
+            x.meter(0, h, -10);
+            x.meter(1, h, 10);
+        }
+    }
+
     private static void eachHourOnItsOwn() {
         Sentence s = new Sentence("Terms: BALANCE is the sum over hours: more of one hour does not make up for another");
         AuctionHour x = quiet(1);
@@ -262,6 +289,46 @@ public final class AccountBoundaryTest {
             int price = op == 3 ? 17_500 : 20_005;
             s.is(2 * (price - 50), () -> x.balance(one, 0));
             s.is(-2 * (price - 50), () -> x.balance(one, -1));
+        }
+    }
+
+    /** Member 0's 10 are in the vector of the liar alone, or of the honest ones alone. */
+    private static AuctionHour divided(int liar, boolean byLiar) {
+        int[] honest = Days.honest(liar);
+        AuctionHour x = Days.rich(2);
+        x.order(0, honest[0], 0, BUY, 10, 40);
+        x.order(0, honest[1], 0, BUY, 10, 40);
+        x.order(0, honest[2], 0, BUY, 11, 40);
+        x.order(0, liar, 0, BUY, byLiar ? 10 : 12, 40);
+        x.order(1, ALL, 0, SELL, 10, 40);
+        x.liar(liar);
+        Days.sealAll(x, 2);
+        x.round();
+        for (int op : honest) {
+            x.tell(op, liar, 0, byLiar ? -1 : honest[0]);
+        }
+        Days.rounds(x, 2);
+        for (int op = 0; op < 4; op++) {
+            x.clear(op);
+        }
+        return x;
+    }
+
+    private static void balanceOfEachOperator() {
+        Sentence s = new Sentence("P16: A member's balance as an operator has it");
+        for (int liar = 0; liar < 4; liar++) {
+            for (int way = 0; way < 2; way++) {
+                boolean byLiar = way == 1;
+                AuctionHour x = divided(liar, byLiar);
+                for (int op = 0; op < 4; op++) {
+                    int one = op;
+                    boolean hasBook = (op == liar) == byLiar;
+                    s.is(hasBook ? 40 : -2480, () -> x.price(one, 0));
+                    s.is(hasBook ? -400 + 10 * (40 - 50) : 0, () -> x.balance(one, 0));
+                    s.is(hasBook ? 400 - 10 * (40 + 50) : 0, () -> x.balance(one, 1));
+                    s.is(hasBook ? 1000 : 0, () -> x.balance(one, -1));
+                }
+            }
         }
     }
 

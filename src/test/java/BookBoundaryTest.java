@@ -18,6 +18,7 @@ public final class BookBoundaryTest {
         collateralFromNowOn();
         collateralOfNoMember();
         collateralOfSender();
+        collateralOfEachSender();
         collateralOfSealed();
         senders();
         receivers();
@@ -30,6 +31,7 @@ public final class BookBoundaryTest {
         needOfBuyer();
         needOfSeller();
         needOfBlock();
+        needOfNothing();
         needAboveCollateral();
         needAtThatOperator();
         leftOutNeedsNothing();
@@ -175,6 +177,26 @@ public final class BookBoundaryTest {
         s.badArgument(() -> refused.block(0, ALL, 4, BUY, 1, 0));
         s.badArgument(() -> refused.block(0, ALL, 0, BUY, 1, 40_001));
         s.goes(() -> refused.collateral(0, 1));
+    }
+
+    private static void collateralOfEachSender() {
+        Sentence s = new Sentence("P2: the member has sent something: that one alone");
+        for (int sender = 0; sender < 6; sender++) {
+            AuctionHour order = new AuctionHour(6);
+            AuctionHour block = new AuctionHour(6);
+            order.order(sender, 1, 0, BUY, 1, 0);
+            block.block(sender, 1, 0, BUY, 1, 0);
+            for (int p = 0; p < 6; p++) {
+                int member = p;
+                if (p == sender) {
+                    s.badState(() -> order.collateral(member, 5));
+                    s.badState(() -> block.collateral(member, 5));
+                } else {
+                    s.goes(() -> order.collateral(member, 5));
+                    s.goes(() -> block.collateral(member, 5));
+                }
+            }
+        }
     }
 
     private static void collateralOfSealed() {
@@ -395,6 +417,20 @@ public final class BookBoundaryTest {
             needs(s, 0, SPANS[k], SELL, 1000, 0);
             needs(s, 0, SPANS[k], SELL, 1000, 1);
         }
+    }
+
+    private static void needOfNothing() {
+        Sentence s = new Sentence("Terms: (0 otherwise): what needs nothing makes no room for what does");
+        AuctionHour x = new AuctionHour(1);
+        x.collateral(0, 10);
+        s.is(4, () -> x.order(0, ALL, 0, BUY, 1000, -5000));
+        s.is(4, () -> x.order(0, ALL, 0, SELL, 1000, 40_000));
+        s.is(4, () -> x.block(0, ALL, 2, BUY, 1000, -5000));
+        s.is(4, () -> x.block(0, ALL, 2, SELL, 1000, 40_000));
+        s.is(0, () -> x.order(0, ALL, 0, BUY, 1, 11));
+        s.is(0, () -> x.order(0, ALL, 0, SELL, 1, -11));
+        s.is(4, () -> x.order(0, ALL, 0, BUY, 1, 10));
+        s.is(0, () -> x.order(0, ALL, 0, SELL, 1, -1));
     }
 
     private static void needAboveCollateral() {

@@ -35,6 +35,7 @@ public final class ClearingBoundaryTest {
         setWithoutBlocks();
         firstEightBlocks();
         eightBlocksTaken();
+        nothingBehindEight();
         blocksWithoutOrders();
         servingPrice();
         neitherLosesNorWins();
@@ -650,6 +651,26 @@ public final class ClearingBoundaryTest {
                 s.is(k < 8 ? 1 : 0, () -> x.fill(0, member, entry));
             }
             s.is(40L * taken, () -> x.welfare(0));
+        }
+    }
+
+    /** Sixty blocks, each as good as the first ones: what is behind 8 gets nothing, however far behind. */
+    private static void nothingBehindEight() {
+        Sentence s = new Sentence("Terms: BLOCKS that count are the first 8; P13: its quantity or 0 of a block");
+        AuctionHour x = Days.rich(6);
+        for (int k = 0; k < 60; k++) {
+            boolean isBid = k % 2 == 0;
+            x.block(k / 10, ALL, 0, isBid ? BUY : SELL, 5, isBid ? 20_000 : 10_000);
+        }
+        Days.agree(x, 6);
+        s.is(255, () -> x.clear(0));
+        s.is(20, () -> x.traded(0, 0));
+        s.is(17_500, () -> x.price(0, 0));
+        s.is(20 * 10_000, () -> x.welfare(0));
+        for (int k = 0; k < 60; k++) {
+            int member = k / 10;
+            int entry = k % 10;
+            s.is(k < 8 ? 5 : 0, () -> x.fill(0, member, entry));
         }
     }
 

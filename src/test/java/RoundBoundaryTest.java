@@ -29,6 +29,7 @@ public final class RoundBoundaryTest {
         equalLies();
         lastLieCounts();
         whereItWasSet();
+        setOfOneMember();
         passedLies();
         vectorOperator();
         vectorMember();
@@ -386,19 +387,6 @@ public final class RoundBoundaryTest {
         s.badArgument(() -> noLiar.tell(0, 4, 0, 0));
     }
 
-    /** The honest operators, in order. */
-    private static int[] honest(int liar) {
-        int[] row = new int[3];
-        int count = 0;
-        for (int op = 0; op < 4; op++) {
-            if (op != liar) {
-                row[count] = op;
-                count++;
-            }
-        }
-        return row;
-    }
-
     /**
      * Member 0 sends 1 to the first two honest operators, 2 to the third, and to the liar 1 or 3; so
      * the honest ones agree on 1 when the word of the liar is 1, else on nothing. Member 1 sends 1 to
@@ -406,7 +394,7 @@ public final class RoundBoundaryTest {
      */
     private static AuctionHour divided(int liar, int toLiar) {
         AuctionHour x = new AuctionHour(2);
-        int[] honest = honest(liar);
+        int[] honest = Days.honest(liar);
         x.order(0, honest[0], 0, BUY, 1, 0);
         x.order(0, honest[1], 0, BUY, 1, 0);
         x.order(0, honest[2], 0, BUY, 2, 0);
@@ -431,7 +419,7 @@ public final class RoundBoundaryTest {
     private static void twoOfThreeWords() {
         Sentence s = new Sentence("Terms: WORD is what at least two are, the empty book when no two are; OWN(o, o)");
         for (int liar = 0; liar < 4; liar++) {
-            int[] honest = honest(liar);
+            int[] honest = Days.honest(liar);
             int[] items = {liar, honest[0], honest[2], -1};
             for (int way = 0; way < 64; way++) {
                 for (int toLiar = 1; toLiar <= 3; toLiar += 2) {
@@ -455,7 +443,7 @@ public final class RoundBoundaryTest {
     private static void equalLies() {
         Sentence s = new Sentence("Terms: what at least two are (as equal books)");
         for (int liar = 0; liar < 4; liar++) {
-            int[] honest = honest(liar);
+            int[] honest = Days.honest(liar);
             // Three ways to the same book: by another operator's, by another member's, by its own.
             AuctionHour x = divided(liar, 3);
             x.tell(honest[0], liar, 0, honest[1]);
@@ -513,6 +501,34 @@ public final class RoundBoundaryTest {
         s.same(Days.entries(y, 0), "1 1 1 0");
     }
 
+    /**
+     * All members are divided, and each has quantities of its own: a lie about one of them is heard of
+     * that one alone, whoever it is.
+     */
+    private static void setOfOneMember() {
+        Sentence s = new Sentence("Terms: what was set by tell() instead, where it was set: of each member by itself");
+        for (int lied = 0; lied < 6; lied++) {
+            AuctionHour x = new AuctionHour(6);
+            for (int p = 0; p < 6; p++) {
+                x.order(p, 0, 0, BUY, 10 * p + 1, 0);
+                x.order(p, 1, 0, BUY, 10 * p + 1, 0);
+                x.order(p, 2, 0, BUY, 10 * p + 2, 0);
+                x.order(p, 3, 0, BUY, 10 * p + 3, 0);
+            }
+            x.liar(3);
+            Days.sealAll(x, 6);
+            x.round();
+            x.tell(0, 3, lied, 4 * lied);
+            x.tell(2, 3, lied, 4 * lied + 1);
+            Days.rounds(x, 2);
+            for (int p = 0; p < 6; p++) {
+                s.same(Days.entries(x, p), p == lied ? "1 1 1 0" : "0 0 0 0");
+            }
+            int one = lied;
+            s.is(10 * one + 1, () -> x.vector(1, one, 0, 2));
+        }
+    }
+
     /** Two honest voices stand against each lie of round 3. */
     private static void passedLies() {
         Sentence s = new Sentence("Terms: passes in round 3 what was set by tell() instead");
@@ -521,8 +537,8 @@ public final class RoundBoundaryTest {
                 for (int item = -1; item < 8; item++) {
                     AuctionHour x = divided(liar, toLiar);
                     x.round();
-                    for (int to : honest(liar)) {
-                        for (int about : honest(liar)) {
+                    for (int to : Days.honest(liar)) {
+                        for (int about : Days.honest(liar)) {
                             if (about != to) {
                                 x.tell(to, about, 0, item);
                                 x.tell(to, about, 1, item);

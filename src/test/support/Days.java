@@ -40,6 +40,19 @@ final class Days {
         }
     }
 
+    /** The honest operators, in order. */
+    static int[] honest(int liar) {
+        int[] row = new int[3];
+        int count = 0;
+        for (int op = 0; op < 4; op++) {
+            if (op != liar) {
+                row[count] = op;
+                count++;
+            }
+        }
+        return row;
+    }
+
     /** How many entries each of the four operators agreed on for a member, as one text. */
     static String entries(AuctionHour x, int p) {
         StringBuilder text = new StringBuilder();
